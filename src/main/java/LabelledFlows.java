@@ -203,7 +203,7 @@ public final class LabelledFlows {
     }
 
     private static boolean has(int set, int member) {
-        return (set >>> member & 1) != 0;
+        return ((set >>> member) & 1) != 0;
     }
 
     private static boolean operandsFit(int kind, int a, int b, int c) {
@@ -492,7 +492,9 @@ public final class LabelledFlows {
             grew = true;
             for (int round = 0; grew && round < MOST_ROUNDS; round++) {
                 grew = false;
-                sweep();
+                for (int method = 0; method < METHODS; method++) {
+                    sweep(method);
+                }
             }
         }
 
@@ -508,26 +510,21 @@ public final class LabelledFlows {
             }
         }
 
-        private void sweep() {
-            for (int method = 0; method < METHODS; method++) {
-                int end = program.sizes[method];
-                for (int place = 0; place < end; place++) {
-                    if (has(zeroPlaces[method], place)) {
-                        passZero(method, place);
+        private void sweep(int method) {
+            int end = program.sizes[method];
+            for (int place = 0; place < end; place++) {
+                if (has(zeroPlaces[method], place)) {
+                    passZero(method, place);
+                }
+                int spot = method * PLACES + place;
+                for (int mode = 0; mode < MODES; mode++) {
+                    int facts = held[spot * MODES + mode];
+                    if (facts != 0) {
+                        pass(method, spot, mode, facts);
                     }
-                    passAll(method, method * PLACES + place);
-                }
-                endAll(method, method * PLACES + end);
-            }
-        }
-
-        private void passAll(int method, int spot) {
-            for (int mode = 0; mode < MODES; mode++) {
-                int facts = held[spot * MODES + mode];
-                if (facts != 0) {
-                    pass(method, spot, mode, facts);
                 }
             }
+            endAll(method, method * PLACES + end);
         }
 
         private void endAll(int method, int spot) {
@@ -575,7 +572,7 @@ public final class LabelledFlows {
             }
             if (kind == RETURN) {
                 int result = has(facts, program.as[spot]) ? 1 << RESULT : 0;
-                growExit(method, mode, facts & ALL_FIELDS | result);
+                growExit(method, mode, (facts & ALL_FIELDS) | result);
                 return;
             }
             int after = changed(method, spot, facts);
@@ -599,10 +596,10 @@ public final class LabelledFlows {
                 case CLEAN:
                     return others;
                 case COPY:
-                    return has(facts, b) ? others | 1 << a : others;
+                    return has(facts, b) ? others | (1 << a) : others;
                 case LOAD:
-                    int origins = 1 << b | fieldsOf(pointing.locals[method * LOCALS + b], c);
-                    return (facts & origins) != 0 ? others | 1 << a : others;
+                    int origins = (1 << b) | fieldsOf(pointing.locals[method * LOCALS + b], c);
+                    return (facts & origins) != 0 ? others | (1 << a) : others;
                 case STORE:
                     int owners = pointing.locals[method * LOCALS + a];
                     return has(facts, b) ? facts | fieldsOf(owners, c) : facts;
@@ -615,7 +612,7 @@ public final class LabelledFlows {
             int wheres = 0;
             for (int site = 0; site < SITES; site++) {
                 if (has(owners, site)) {
-                    wheres |= 1 << LOCALS + site * FIELDS + field;
+                    wheres |= 1 << (LOCALS + site * FIELDS + field);
                 }
             }
             return wheres;
@@ -661,7 +658,7 @@ public final class LabelledFlows {
 
         private void comeBack(int spot, int mode, int exit) {
             int result = has(exit, RESULT) ? 1 << program.as[spot] : 0;
-            growHeld(spot + 1, mode, exit & ALL_FIELDS | result);
+            growHeld(spot + 1, mode, (exit & ALL_FIELDS) | result);
         }
 
         private void growHeld(int spot, int mode, int facts) {
@@ -904,7 +901,7 @@ public final class LabelledFlows {
                     break;
                 case LOAD:
                     locals[base + a] = fields[objectOf(b) * FIELDS + c]
-                            | locals[base + b] & ALL_LABELS;
+                            | (locals[base + b] & ALL_LABELS);
                     break;
                 case STORE:
                     fields[objectOf(a) * FIELDS + c] = locals[base + b];
