@@ -408,22 +408,26 @@ public final class LabelledFlows {
 
         private void reach(int spot, int target) {
             targets[spot] |= 1 << target;
-            grew |= !has(reached, target);
-            reached |= 1 << target;
+            if (!has(reached, target)) {
+                reached |= 1 << target;
+                grew = true;
+            }
         }
 
         private void growLocal(int method, int local, int sites) {
             int index = method * LOCALS + local;
-            grew |= (sites & ~locals[index]) != 0;
-            locals[index] |= sites;
+            if ((sites & ~locals[index]) != 0) {
+                locals[index] |= sites;
+                grew = true;
+            }
         }
 
         private void growFields(int owners, int field, int sites) {
             for (int site = 0; site < SITES; site++) {
-                if (has(owners, site)) {
-                    int index = site * FIELDS + field;
-                    grew |= (sites & ~cells[index]) != 0;
+                int index = site * FIELDS + field;
+                if (has(owners, site) && (sites & ~cells[index]) != 0) {
                     cells[index] |= sites;
+                    grew = true;
                 }
             }
         }
@@ -462,8 +466,8 @@ public final class LabelledFlows {
         private static final int MODES = WHERES + SOURCES;
         private static final int ALL_LOCALS = (1 << LOCALS) - 1;
         private static final int ALL_FIELDS = (1 << WHERES) - 1 - ALL_LOCALS;
-        // In a method's exits, where its fields' bits are free of it: the value it returns.
-        private static final int RESULT = 0;
+        // Locals do not come back, so in exits a local's bit is free to mean the returned value.
+        private static final int RESULT = 1;
 
         private final Program program;
         private final Pointing pointing;
@@ -571,7 +575,7 @@ public final class LabelledFlows {
                 return;
             }
             if (kind == RETURN) {
-                int result = has(facts, program.as[spot]) ? 1 << RESULT : 0;
+                int result = has(facts, program.as[spot]) ? RESULT : 0;
                 growExit(method, mode, (facts & ALL_FIELDS) | result);
                 return;
             }
@@ -637,11 +641,11 @@ public final class LabelledFlows {
 
         private void enter(int target, int given, int newLabels) {
             for (int where = 0; where < WHERES; where++) {
-                if (has(given, where)) {
-                    int index = target * MODES + where;
-                    grew |= (newLabels & ~labels[index]) != 0;
+                int index = target * MODES + where;
+                if (has(given, where) && (newLabels & ~labels[index]) != 0) {
                     labels[index] |= newLabels;
-                    growHeld(target * PLACES, where, 1 << where);
+                    held[target * PLACES * MODES + where] |= 1 << where;
+                    grew = true;
                 }
             }
         }
@@ -657,25 +661,31 @@ public final class LabelledFlows {
         }
 
         private void comeBack(int spot, int mode, int exit) {
-            int result = has(exit, RESULT) ? 1 << program.as[spot] : 0;
+            int result = (exit & RESULT) != 0 ? 1 << program.as[spot] : 0;
             growHeld(spot + 1, mode, (exit & ALL_FIELDS) | result);
         }
 
         private void growHeld(int spot, int mode, int facts) {
             int index = spot * MODES + mode;
-            grew |= (facts & ~held[index]) != 0;
-            held[index] |= facts;
+            if ((facts & ~held[index]) != 0) {
+                held[index] |= facts;
+                grew = true;
+            }
         }
 
         private void growExit(int method, int mode, int exit) {
             int index = method * MODES + mode;
-            grew |= (exit & ~exits[index]) != 0;
-            exits[index] |= exit;
+            if ((exit & ~exits[index]) != 0) {
+                exits[index] |= exit;
+                grew = true;
+            }
         }
 
         private void growZero(int method, int place) {
-            grew |= !has(zeroPlaces[method], place);
-            zeroPlaces[method] |= 1 << place;
+            if (!has(zeroPlaces[method], place)) {
+                zeroPlaces[method] |= 1 << place;
+                grew = true;
+            }
         }
 
         int countPaths() {

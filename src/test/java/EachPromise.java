@@ -312,6 +312,31 @@ public final class EachPromise {
         due("8: local a gets nothing", x.finding(0, 0), false);
     }
 
+    /** Facts that come round late, by jumps back and through methods of falling numbers. */
+    private static void pathsThatSettleLate() {
+        LabelledFlows back = withMain(NEW, 0, 0, 0, SOURCE, 1, 0, 0, CALL, 2, 0, 1, SINK, 2, 0, 0);
+        with(back, 1, GOTO, 2, 0, 0, RETURN, 1, 0, 0, GOTO, 1, 0, 0);
+        back.bind(0, 0, 1);
+        due("8: a RETURN behind jumps", back.analyse(99), 5 + 3 + 2 + 3 + 3);
+        due("8: its label comes back", back.finding(0, 0), true);
+
+        LabelledFlows late = withMain(NEW, 0, 0, 0, SOURCE, 1, 0, 0, CALL, 2, 0, 1, GOTO, 10, 0, 0,
+                SOURCE, 1, 0, 0, CALL, 2, 0, 1, RETURN, 0, 0, 0, GOTO, 4, 0, 0, GOTO, 7, 0, 0,
+                RETURN, 0, 0, 0, GOTO, 8, 0, 0);
+        with(late, 5, CALL, 2, 0, 5);
+        with(late, 4, CALL, 2, 0, 9);
+        with(late, 3, NEW, 2, 1, 0, CALL, 3, 2, 1);
+        late.bind(0, 0, 5);
+        late.bind(0, 1, 4);
+        late.bind(0, 2, 3);
+        late.bind(1, 0, 2);
+        due("8: analyse", late.analyse(HIGHEST) > 0, true);
+        for (int m = 2; m <= 5; m++) {
+            due("12: both labels come to method " + m, late.entries(m), 3);
+            due("11: the later one too", late.may(m, 0, 1, 1), true);
+        }
+    }
+
     private static LabelledFlows leak() {
         return withMain(SOURCE, 0, 0, 0, NEW, 1, 0, 0, STORE, 1, 0, 0, SINK, 0, 0, 0);
     }
@@ -719,6 +744,7 @@ public final class EachPromise {
         pathsWithoutCalls();
         pathsWithCalls();
         pathsBothArguments();
+        pathsThatSettleLate();
         verdicts();
         forgetting();
         findings();
