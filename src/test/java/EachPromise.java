@@ -1,46 +1,5 @@
 /** For each promise of the document: ordinary calls, the edges it names, and wrong arguments. */
-public final class EachPromise {
-    private static final int NEW = 0;
-    private static final int SOURCE = 1;
-    private static final int SINK = 2;
-    private static final int CLEAN = 3;
-    private static final int COPY = 4;
-    private static final int LOAD = 5;
-    private static final int STORE = 6;
-    private static final int CALL = 7;
-    private static final int BRANCH = 8;
-    private static final int GOTO = 9;
-    private static final int RETURN = 10;
-    private static final int NONE = -1;
-    private static final int LOWEST = Integer.MIN_VALUE;
-    private static final int HIGHEST = Integer.MAX_VALUE;
-
-    private static int wrong = 0;
-
-    private static void due(String what, long got, long want) {
-        if (got != want) {
-            wrong++;
-            System.out.println(what + " answered " + got + ", due is " + want);
-        }
-    }
-
-    private static void due(String what, boolean got, boolean want) {
-        due(what, got ? 1 : 0, want ? 1 : 0);
-    }
-
-    /** Adds to one method statements that are all taken: kind, a, b, c of each. */
-    private static LabelledFlows with(LabelledFlows x, int method, int... rows) {
-        for (int i = 0; i < rows.length; i += 4) {
-            int place = x.size(method);
-            due("add of a statement that fits", x.add(method, rows[i], rows[i + 1], rows[i + 2], rows[i + 3]), place);
-        }
-        return x;
-    }
-
-    private static LabelledFlows withMain(int... rows) {
-        return with(new LabelledFlows(), 0, rows);
-    }
-
+public final class EachPromise extends Checks {
     private static void newObject() {
         LabelledFlows x = new LabelledFlows();
         due("1: NONE", LabelledFlows.NONE, -1);
@@ -337,12 +296,12 @@ public final class EachPromise {
         }
     }
 
-    private static LabelledFlows leak() {
+    private static LabelledFlows shortLeak() {
         return withMain(SOURCE, 0, 0, 0, NEW, 1, 0, 0, STORE, 1, 0, 0, SINK, 0, 0, 0);
     }
 
     private static void verdicts() {
-        LabelledFlows x = leak();
+        LabelledFlows x = shortLeak();
         due("9: none", x.verdict(), 0);
         x.run(0, 9);
         due("9: none by a run", x.verdict(), 0);
@@ -387,7 +346,7 @@ public final class EachPromise {
     }
 
     private static void forgetting() {
-        LabelledFlows x = leak();
+        LabelledFlows x = shortLeak();
         x.analyse(HIGHEST);
         x.run(0, 200);
         dueKept("before", x);
@@ -418,7 +377,7 @@ public final class EachPromise {
     }
 
     private static void findings() {
-        LabelledFlows x = leak();
+        LabelledFlows x = shortLeak();
         due("10: no verdict", x.finding(0, 0), false);
         x.analyse(HIGHEST);
         due("10: finding", x.finding(0, 0), true);
@@ -462,7 +421,7 @@ public final class EachPromise {
     }
 
     private static void mays() {
-        LabelledFlows x = leak();
+        LabelledFlows x = shortLeak();
         due("11: no verdict", x.may(0, 1, 0, 0), false);
         x.analyse(HIGHEST);
         due("11: not before", x.may(0, 0, 0, 0), false);
@@ -578,11 +537,6 @@ public final class EachPromise {
         LabelledFlows behind = withMain(GOTO, 2, 0, 0, NEW, 0, 0, 0);
         behind.analyse(HIGHEST);
         due("13: also where no run comes", behind.points(0, 0), 1);
-    }
-
-    private static void dueRun(String what, LabelledFlows x, int choices, int n, int steps, int outcome) {
-        due(what + ": steps", x.run(choices, n), steps);
-        due(what + ": outcome", x.outcome(), outcome);
     }
 
     private static void stepsOfRuns() {
@@ -723,7 +677,7 @@ public final class EachPromise {
     }
 
     private static void manyCalls() {
-        LabelledFlows x = leak();
+        LabelledFlows x = shortLeak();
         for (int i = 0; i < 160; i++) {
             due("calls over and over: analyse", x.analyse(99), 11);
             due("calls over and over: run", x.run(i, 200), 4);
@@ -762,9 +716,6 @@ public final class EachPromise {
         hitsOfRuns();
         runsBeginAnew();
         manyCalls();
-        System.out.println(wrong == 0 ? "all answers are as due" : wrong + " answers are not as due");
-        if (wrong != 0) {
-            System.exit(1);
-        }
+        finish();
     }
 }
