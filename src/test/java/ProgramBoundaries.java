@@ -642,7 +642,7 @@ public final class ProgramBoundaries extends Checks {
         return x;
     }
 
-    /** Calls that do what they are to do on the object of prepared(); from the fifth on nothing is different by them. */
+    /** Calls that are done on the object of prepared(); from number 5 on nothing is different by them. */
     private static boolean change(LabelledFlows x, int which) {
         switch (which) {
             case 0: return x.add(0, CLEAN, 0, 0, 0) == 5;

@@ -278,6 +278,30 @@ public final class RunBoundaries extends Checks {
         }
     }
 
+    /** Up to twelve objects, which get a label in a field where an even bit is 0; an odd bit makes one more. */
+    private static void fieldsBeginAnew() {
+        sentence("Every run begins anew, nothing of former ones is left.");
+        int more = 0x2aaaaa;
+        int without = 0x555555;
+        for (int f = 0; f <= 1; f++) {
+            LabelledFlows x = withMain(NEW, 0, 0, 0, BRANCH, 4, 0, 0, SOURCE, 1, 0, 0, STORE, 0, 1, f,
+                    LOAD, 2, 0, f, SINK, 2, 0, 0, BRANCH, 0, 0, 0);
+            for (int i = 0; i < 2; i++) {
+                dueRun("a label in each field " + f, x, more, 200, 12 * 7, ENDED);
+                due("hits", x.hits(0, 0), 12);
+                dueRun("in none", x, more | without, 200, 12 * 5, ENDED);
+                due("hits", x.hits(0, 0), 0);
+                due("made", x.made(), 12);
+            }
+            LabelledFlows object = withMain(NEW, 0, 0, 0, BRANCH, 3, 0, 0, STORE, 0, 0, f, BRANCH, 0, 0, 0,
+                    LOAD, 2, 0, f, LOAD, 2, 2, f);
+            for (int i = 0; i < 2; i++) {
+                dueRun("an object in each field " + f, object, more, 200, 12 * 4 + 2, ENDED);
+                dueRun("in none", object, more | without, 200, 12 * 3 + 1, STUCK);
+            }
+        }
+    }
+
     private static void stepsAnswered() {
         sentence("Answers the number of steps made (the statement with which it was STUCK, DEEP or FULL is none).");
         for (int before = 0; before <= 11; before++) {
@@ -432,6 +456,18 @@ public final class RunBoundaries extends Checks {
         dueRun("CLEAN", x, 0, 200, 8, ENDED);
         due("the label is lost", x.hits(0, 0), 0);
         due("a copy has it", x.hits(0, 1), 1);
+        LabelledFlows labels = withMain(SOURCE, 0, 0, 0, SOURCE, 1, 0, 0, SOURCE, 2, 0, 0, SOURCE, 3, 0, 0,
+                SINK, 0, 0, 0, SINK, 1, 0, 0, SINK, 2, 0, 0, SINK, 3, 0, 0);
+        for (int local = 0; local <= 3; local++) {
+            for (int i = 0; i < 4; i++) {
+                labels.drop(0);
+            }
+            with(labels, 0, CLEAN, local, 0, 0, SINK, 0, 0, 0, SINK, 1, 0, 0, SINK, 2, 0, 0, SINK, 3, 0, 0);
+            labels.run(0, 200);
+            for (int i = 0; i < 4; i++) {
+                due("label " + i + ", CLEAN up to local " + local, labels.hits(i, i), i > local ? 1 : 0);
+            }
+        }
         sentence("local a becomes none, with one label: the number of this source");
         LabelledFlows source = withMain(SOURCE, 0, 0, 0, SOURCE, 0, 0, 0, SINK, 0, 0, 0, NEW, 1, 0, 0,
                 SOURCE, 1, 0, 0, LOAD, 2, 1, 0);
@@ -518,6 +554,20 @@ public final class RunBoundaries extends Checks {
             dueRun("the END, to " + a, x, 0, 200, 5, STUCK);
             due("no label", x.hits(0, 0) + x.hits(1, 0), 0);
         }
+        // By six open methods down and up again.
+        LabelledFlows deep = withCalled(rows(NEW, 0, 0, 0, SOURCE, 1, 0, 0, CALL, 3, 0, 1, SINK, 3, 0, 0,
+                SINK, 1, 0, 0),
+                BRANCH, 4, 0, 0, CALL, 2, 0, 1, SINK, 2, 0, 0, RETURN, 2, 0, 0, RETURN, 1, 0, 0);
+        dueRun("six methods", deep, 1 << 4, 200, 3 + 4 * 2 + 2 + 4 * 2 + 2, ENDED);
+        due("the label comes back through all", deep.hits(0, 0), 1);
+        due("the caller's own is left", deep.hits(0, 1), 1);
+        due("and it is in each of them", deep.hits(0, 2), 4);
+        LabelledFlows lost = withCalled(rows(NEW, 0, 0, 0, SOURCE, 1, 0, 0, CALL, 3, 0, 1, SINK, 3, 0, 0,
+                SINK, 1, 0, 0),
+                BRANCH, 11, 0, 0, CALL, 2, 0, 1, SINK, 2, 0, 0, SINK, 1, 0, 0);
+        dueRun("six methods, to the END", lost, 1 << 4, 200, 3 + 4 * 2 + 1 + 4 * 2 + 2, ENDED);
+        due("nothing comes back", lost.hits(0, 0) + lost.hits(0, 2), 0);
+        due("the callers' own are left", lost.hits(0, 1) * 10 + lost.hits(0, 3), 14);
         sentence("Then it goes on at the next place");
         LabelledFlows next = withCalled(rows(NEW, 0, 0, 0, CALL, 1, 0, 0, NEW, 0, 0, 0), NEW, 2, 0, 0,
                 RETURN, 2, 0, 0, NEW, 0, 0, 0);
@@ -537,6 +587,7 @@ public final class RunBoundaries extends Checks {
         stuckBeforeDeep();
         fullWithTwelve();
         runsBeginAnew();
+        fieldsBeginAnew();
         stepsAnswered();
         outcomes();
         hitsCounted();

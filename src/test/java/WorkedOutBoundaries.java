@@ -47,6 +47,9 @@ public final class WorkedOutBoundaries extends Checks {
         two.analyse(HIGHEST);
         due("none has it", two.points(1, 0), 0);
         due("so nothing is reached", two.points(1, 2), 0);
+        LabelledFlows first = withCalled(rows(NEW, 0, 0, 0, CALL, 1, 0, 0), RETURN, 0, 0, 0);
+        first.analyse(HIGHEST);
+        due("a RETURN at place 0", first.points(0, 1), 1);
         for (int r = 0; r <= 3; r++) {
             LabelledFlows x = withCalled(rows(NEW, 0, 0, 0, NEW, 1, 0, 0, CALL, 3, 0, 1),
                     NEW, 2, 0, 0, NEW, 3, 0, 0, RETURN, r, 0, 0);
@@ -82,11 +85,79 @@ public final class WorkedOutBoundaries extends Checks {
             due("the other field", two.cell(0, 1 - f), 0);
             due("LOAD of the field", two.points(0, 2), 4);
             due("LOAD of the other field", two.points(0, 3), 0);
+            LabelledFlows other = withMain(NEW, 0, 0, 0, NEW, 1, 0, 0, STORE, 0, 0, f, LOAD, 2, 1, f);
+            other.analyse(HIGHEST);
+            due("LOAD of another object", other.points(0, 2), 0);
             LabelledFlows all = withMain(NEW, 0, 0, 0, NEW, 1, 0, 0, STORE, 0, 0, f, STORE, 1, 1, f,
                     BRANCH, 6, 0, 0, COPY, 0, 1, 0, LOAD, 2, 0, f);
             all.analyse(HIGHEST);
             due("LOAD of two owners", all.points(0, 2), 3);
         }
+    }
+
+    private static void setsInEachMethod() {
+        sentence("Sets of sites P(m, x) for local x of method m and Q(o, f) for field f of site o,");
+        for (int m = 1; m <= 5; m++) {
+            int other = m == 5 ? 1 : 5;
+            LabelledFlows x = withMain(NEW, 0, 0, 0, NEW, 1, 1, 0, CALL, 2, 0, 1);
+            with(x, m, NEW, 2, 2, 0, STORE, 0, 1, 1, COPY, 3, 2, 0, LOAD, 2, 0, 1, CALL, 3, 1, 6);
+            with(x, other, RETURN, 1, 0, 0);
+            x.bind(0, 0, m);
+            x.bind(1, 1, other);
+            x.analyse(HIGHEST);
+            // The NEW of method m is number 2, as the other method has none.
+            int[] sets = {1, 2, 6, 6};
+            for (int local = 0; local <= 3; local++) {
+                due("local " + local + " of method " + m, x.points(m, local), sets[local]);
+            }
+            due("the receiver in method " + other, x.points(other, 0), 2);
+            due("the argument in method " + other, x.points(other, 1), 6);
+            due("what was stored", x.cell(0, 1), 2);
+            due("nothing comes back to method 0", x.points(0, 2), 0);
+        }
+        for (int site = 0; site <= 5; site++) {
+            for (int f = 0; f <= 1; f++) {
+                LabelledFlows x = with(withSites(site), 0, CALL, 2, 1, 0, STORE, 1, 0, f, LOAD, 3, 1, f);
+                x.bind(0, 0, 5);
+                x.analyse(HIGHEST);
+                due("site " + site + " as receiver", x.points(5, 0), 1 << site);
+                due("a LOAD from site " + site, x.points(0, 3), 63 - (1 << site));
+            }
+        }
+        for (int f = 0; f <= 1; f++) {
+            LabelledFlows x = withCalled(rows(NEW, 0, 0, 0, NEW, 1, 0, 0, NEW, 2, 0, 0, NEW, 3, 0, 0, STORE, 0, 2, f,
+                    STORE, 1, 3, f, CALL, 2, 0, 0, CALL, 2, 1, 0), LOAD, 2, 0, f);
+            x.analyse(HIGHEST);
+            due("a LOAD from two sites of different contents", x.points(1, 2), 12);
+            due("the first one's", x.cell(0, f), 4);
+            due("the second one's", x.cell(1, f), 8);
+            with(x, 0, STORE, 0, 3, f);
+            x.analyse(HIGHEST);
+            due("two STOREs to one site", x.cell(0, f), 12);
+        }
+        LabelledFlows store = withCalled(rows(NEW, 0, 0, 0, NEW, 1, 0, 0, STORE, 0, 1, 0, LOAD, 2, 0, 1),
+                NEW, 2, 0, 0);
+        store.analyse(HIGHEST);
+        due("a STORE calls nothing", store.points(1, 0), 0);
+    }
+
+    private static void setsThatSettleLate() {
+        sentence("and the set of REACHED methods are the least ones for which:");
+        LabelledFlows x = withMain(LOAD, 3, 2, 0, STORE, 2, 1, 0, COPY, 1, 0, 0, COPY, 2, 0, 0, NEW, 0, 0, 0);
+        x.analyse(HIGHEST);
+        due("each statement waits for the next one", x.points(0, 3), 1);
+        LabelledFlows copies = withMain(CALL, 3, 1, 0, COPY, 1, 2, 0, COPY, 2, 3, 0, COPY, 3, 0, 0, NEW, 0, 0, 0);
+        with(copies, 5, CALL, 2, 0, 5);
+        with(copies, 4, CALL, 2, 0, 9);
+        with(copies, 3, NEW, 2, 1, 0, RETURN, 2, 0, 0);
+        copies.bind(0, 0, 5);
+        copies.bind(0, 1, 4);
+        copies.bind(0, 2, 3);
+        copies.analyse(HIGHEST);
+        due("methods are reached one by another", copies.points(3, 2), 2);
+        due("and what returns comes back", copies.points(4, 2), 2);
+        due("but no farther", copies.points(5, 2), 0);
+        due("nothing more than that", copies.points(0, 1), 1);
     }
 
     private static void asItIs() {
@@ -125,6 +196,54 @@ public final class WorkedOutBoundaries extends Checks {
         again.bind(0, 0, 0);
         due("method 0 called by itself", again.analyse(99), 4 + 2 + 4);
         due("ZERO once, and the argument's", again.entries(0), 2);
+    }
+
+    private static void factsThatSettleLate() {
+        sentence("Which facts are ENTRY FACTS of a method, and which facts HOLD at a place of a method UNDER one of "
+                + "its entry facts, is the least choice for which:");
+        int[] back = {GOTO, 11, 0, 0, SINK, 1, 0, 0, GOTO, 1, 0, 0, GOTO, 2, 0, 0, GOTO, 3, 0, 0, GOTO, 4, 0, 0,
+                GOTO, 5, 0, 0, GOTO, 6, 0, 0, GOTO, 7, 0, 0, GOTO, 8, 0, 0, GOTO, 9, 0, 0, GOTO, 10, 0, 0};
+        due("ZERO goes back place by place", withMain(back).analyse(99), 12);
+        // By jumps back the label comes to the CALL when ZERO has long gone on.
+        LabelledFlows label = withCalled(rows(NEW, 0, 0, 0, CALL, 2, 0, 1, GOTO, 5, 0, 0, GOTO, 1, 0, 0,
+                GOTO, 3, 0, 0, SOURCE, 1, 0, 0, GOTO, 4, 0, 0), back);
+        due("a label goes back place by place", label.analyse(99), 7 + 6 + 12 + 12);
+        due("to the SINK", label.finding(0, 0), true);
+        LabelledFlows falling = withMain(NEW, 0, 0, 0, CALL, 1, 0, 1, GOTO, 5, 0, 0, GOTO, 1, 0, 0,
+                GOTO, 3, 0, 0, SOURCE, 1, 0, 0, GOTO, 4, 0, 0);
+        with(falling, 5, CALL, 1, 0, 5);
+        with(falling, 4, CALL, 1, 0, 9);
+        with(falling, 3, CLEAN, 3, 0, 0);
+        falling.bind(0, 0, 5);
+        falling.bind(0, 1, 4);
+        falling.bind(0, 2, 3);
+        due("a label comes to methods of lower numbers", falling.analyse(99), 7 + 4 + 2 + 1 + 2 + 1 + 2 + 2);
+        LabelledFlows returned = withCalled(rows(NEW, 0, 0, 0, SOURCE, 1, 0, 0, CALL, 2, 0, 1, SINK, 2, 0, 0),
+                GOTO, 3, 0, 0, RETURN, 1, 0, 0, GOTO, 1, 0, 0, GOTO, 2, 0, 0);
+        returned.analyse(HIGHEST);
+        due("a RETURN behind jumps back", returned.finding(0, 0), true);
+        for (int m = 1; m <= 5; m++) {
+            for (int k = 1; k <= 5; k++) {
+                if (m != k) {
+                    dueFourLabels(m, k);
+                }
+            }
+        }
+    }
+
+    /** Four labels come through method m to method k. */
+    private static void dueFourLabels(int m, int k) {
+        LabelledFlows x = withMain(NEW, 0, 0, 0, SOURCE, 1, 0, 0, CALL, 2, 0, 1, SOURCE, 1, 0, 0, CALL, 2, 0, 1,
+                SOURCE, 1, 0, 0, CALL, 2, 0, 1, SOURCE, 1, 0, 0, CALL, 2, 0, 1);
+        with(x, m, CALL, 2, 0, 5);
+        x.bind(0, 0, m);
+        x.bind(0, 1, k);
+        due("paths of four labels", x.analyse(99), 10 + 8 + 2 + 8 + 1 + 4);
+        due("entries of method " + m, x.entries(m), 5);
+        due("entries of method " + k, x.entries(k), 5);
+        for (int s = 0; s <= 3; s++) {
+            due("label " + s + " in method " + k, x.may(k, 0, 1, s), true);
+        }
     }
 
     private static void entryFactsHold() {
@@ -293,6 +412,53 @@ public final class WorkedOutBoundaries extends Checks {
         }
     }
 
+    /** Each field of each site, and each label, goes into a method and comes back. */
+    private static void fieldsPassCalls() {
+        sentence("FACTS are ZERO, (s, x) for a label s and a local x, and (s, o, f) for a label s, a site o and "
+                + "a field f.");
+        for (int i = 0; i < 12; i++) {
+            LabelledFlows x = with(withSites(i / 2), 0, SOURCE, 2, 0, 0, STORE, 1, 2, i % 2, CALL, 3, 1, 0);
+            x.bind(0, 0, 1);
+            String what = "field " + i % 2 + " of site " + i / 2;
+            due(what, x.analyse(99), 10 + 3 + 2 + 1 + 1);
+            due(what + " goes in", x.entries(1), 2);
+            due(what + " goes in", x.may(1, 0, 4 + i, 0), true);
+            due(what + " comes back", x.may(0, 9, 4 + i, 0), true);
+            // By a RETURN, and with other facts of the label besides.
+            with(x, 1, RETURN, 2, 0, 0);
+            with(x, 0, COPY, 1, 2, 0, CALL, 3, 1, 1);
+            x.analyse(HIGHEST);
+            due(what + " goes in besides", x.entries(1), 4);
+            due(what + " comes back besides", x.may(0, 11, 4 + i, 0), true);
+        }
+        for (int i = 0; i < 12; i++) {
+            // Method 1 loses the field's fact by a CALL without a target, and then gives method 2 ZERO alone.
+            LabelledFlows x = with(withSites(i / 2), 0, SOURCE, 2, 0, 0, STORE, 1, 2, i % 2, CALL, 3, 1, 4,
+                    CALL, 3, 1, 0);
+            with(x, 1, CALL, 3, 2, 0, CALL, 3, 0, 4);
+            x.bind(0, 0, 1);
+            x.bind(0, 1, 2);
+            due("where " + (4 + i) + ", lost on the way", x.analyse(99), 11 + 4 + 2 + 3 + 1 + 1 + 1);
+            due("does not come back from another call", x.may(1, 2, 4 + i, 0), false);
+        }
+        for (int s = 0; s <= 3; s++) {
+            LabelledFlows end = withCalled(rows(NEW, 0, 0, 0, CALL, 1, 0, 0));
+            LabelledFlows returned = withCalled(rows(NEW, 0, 0, 0, CALL, 1, 0, 0));
+            for (int i = 0; i <= s; i++) {
+                with(end, 1, SOURCE, 2, 0, 0);
+                with(returned, 1, SOURCE, 2, 0, 0);
+            }
+            with(end, 1, STORE, 0, 2, 1);
+            with(returned, 1, RETURN, 2, 0, 0);
+            end.analyse(HIGHEST);
+            returned.analyse(HIGHEST);
+            for (int label = 0; label <= 3; label++) {
+                due("label " + label + " of " + s + ", in a field from the END", end.may(0, 2, 5, label), label == s);
+                due("label " + label + " of " + s + ", by RETURN", returned.may(0, 2, 1, label), label == s);
+            }
+        }
+    }
+
     private static void localsPassCalls() {
         sentence("for CALL a b c: if d is (s, x) and x is not a, d holds under e at the next place.");
         for (int i = 0; i < 16; i++) {
@@ -379,6 +545,49 @@ public final class WorkedOutBoundaries extends Checks {
         twice.analyse(HIGHEST);
         for (int i = 0; i < 4; i++) {
             due("what one call gives comes back to it alone", twice.finding(i / 2, i % 2), i / 2 == i % 2);
+        }
+    }
+
+    private static void moreComesBack() {
+        sentence("For each e' that d gives to t, and each d' that holds under e' in t at a RETURN r:");
+        LabelledFlows two = withCalled(rows(NEW, 0, 0, 0, SOURCE, 1, 0, 0, CALL, 2, 0, 1),
+                BRANCH, 2, 0, 0, RETURN, 1, 0, 0, STORE, 0, 1, 1, RETURN, 3, 0, 0);
+        two.analyse(HIGHEST);
+        due("by the first RETURN", two.may(0, 3, 2, 0), true);
+        due("by the second RETURN", two.may(0, 3, 5, 0), true);
+        // The receiver's label goes on alone, the argument's too, in one and the same call.
+        for (int r = 0; r <= 1; r++) {
+            LabelledFlows both = withCalled(rows(NEW, 0, 0, 0, SOURCE, 0, 0, 0, SOURCE, 1, 0, 0, CALL, 2, 0, 1),
+                    RETURN, r, 0, 0);
+            both.analyse(HIGHEST);
+            due("the receiver's label by RETURN " + r, both.may(0, 4, 2, 0), r == 0);
+            due("the argument's label by RETURN " + r, both.may(0, 4, 2, 1), r == 1);
+            LabelledFlows end = withCalled(rows(NEW, 0, 0, 0, SOURCE, 0, 0, 0, SOURCE, 1, 0, 0, CALL, 2, 0, 1),
+                    STORE, 0, r, 1);
+            end.analyse(HIGHEST);
+            due("the receiver's label in a field", end.may(0, 4, 5, 0), r == 0);
+            due("the argument's label in a field", end.may(0, 4, 5, 1), r == 1);
+            LabelledFlows same = withCalled(rows(NEW, 0, 0, 0, SOURCE, 1, 0, 0, COPY, 0, 1, 0, CALL, 2, 0, 1),
+                    RETURN, r, 0, 0);
+            same.analyse(HIGHEST);
+            due("one label in both, by RETURN " + r, same.may(0, 4, 2, 0), true);
+        }
+        LabelledFlows zero = withMain(BRANCH, 4, 0, 0, NEW, 0, 0, 0, CALL, 1, 0, 0, SINK, 1, 0, 0,
+                SOURCE, 2, 0, 0, RETURN, 2, 0, 0);
+        zero.bind(0, 0, 0);
+        due("method 0 called by itself", zero.analyse(99), 6 + 1 + 3);
+        due("its label comes back", zero.finding(0, 0), true);
+        for (int m = 0; m <= 5; m++) {
+            for (int place = 0; place <= 11; place++) {
+                LabelledFlows x = new LabelledFlows();
+                x.bind(0, 0, m);
+                with(x, m == 0 ? 1 : 0, NEW, 0, 0, 0, SOURCE, 1, 0, 0, CALL, 2, 0, 1);
+                for (int i = 0; i <= 11; i++) {
+                    with(x, m, i == place ? SINK : GOTO, i == place ? 1 : Math.min(i + 1, 11), 0, 0);
+                }
+                x.analyse(HIGHEST);
+                due("a SINK at place " + place + " of method " + m, x.finding(0, 0), m != 0);
+            }
         }
     }
 
@@ -740,8 +949,11 @@ public final class WorkedOutBoundaries extends Checks {
     public static void main(String[] args) {
         reachedMethods();
         setsOfStatements();
+        setsInEachMethod();
+        setsThatSettleLate();
         callsPoint();
         asItIs();
+        factsThatSettleLate();
         zeroIsAnEntryFact();
         entryFactsHold();
         nothingFollowsTheEnd();
@@ -752,10 +964,12 @@ public final class WorkedOutBoundaries extends Checks {
         copiesToItself();
         storesToAll();
         fieldsLoaded();
+        fieldsPassCalls();
         localsPassCalls();
         factsOfEachTarget();
         givenFacts();
         returnedFacts();
+        moreComesBack();
         factsAtTheEnd();
         beyondTheEnd();
         pathsCounted();
